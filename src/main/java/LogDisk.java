@@ -65,16 +65,17 @@ public final class LogDisk {
 
     public LogDisk(int pages, int code) {
         int most = Math.max(LEAST_PAGES, Math.min(MOST_PAGES, pages));
-        this.pages = new Pages(most);
+        Pages all = new Pages(most);
         for (int f = 0; f < FILES; f++) {
-            files[f] = new DiskFile(this.pages, Math.min(most, LONGEST_CONTENT));
+            files[f] = new DiskFile(all, Math.min(most, LONGEST_CONTENT));
             keeps[f] = NONE;
         }
+        this.pages = all;
         firstCode = code;
         snapshot.code = code;
     }
 
-    public int feed(long eight, int n) {
+    public int feed(long eight, int n) throws IllegalArgumentException, IllegalStateException {
         if (n < 1 || n > 8) {
             throw new IllegalArgumentException("n is not 1 .. 8");
         }
@@ -88,7 +89,7 @@ public final class LogDisk {
         return tape.size;
     }
 
-    public int save(int term, int voted) {
+    public int save(int term, int voted) throws IllegalArgumentException, UnsupportedOperationException {
         if (term < vote.term || term > MOST_TERM) {
             throw new IllegalArgumentException("term is not TERM .. 1000000");
         }
@@ -106,7 +107,8 @@ public final class LogDisk {
         return target;
     }
 
-    public int append(int term, int kind) {
+    public int append(int term, int kind)
+            throws IllegalArgumentException, IllegalStateException, UnsupportedOperationException {
         int bytes = tape.handOver();
         if (term < termAt(last) || term > MOST_TERM) {
             throw new IllegalArgumentException("term is below that of LAST or above 1000000");
@@ -131,7 +133,7 @@ public final class LogDisk {
         return last;
     }
 
-    public int cutFrom(int i) {
+    public int cutFrom(int i) throws IndexOutOfBoundsException {
         if (!isInLog(i)) {
             throw new IndexOutOfBoundsException("not BASE + 1 .. LAST");
         }
@@ -149,7 +151,7 @@ public final class LogDisk {
         return gone;
     }
 
-    public int compact(int to, int code) {
+    public int compact(int to, int code) throws IndexOutOfBoundsException, UnsupportedOperationException {
         int bytes = tape.handOver();
         if (!isInLog(to)) {
             throw new IndexOutOfBoundsException("not BASE + 1 .. LAST");
@@ -162,7 +164,7 @@ public final class LogDisk {
         return gone;
     }
 
-    public int take(int base, int term, int code) {
+    public int take(int base, int term, int code) throws IllegalArgumentException, UnsupportedOperationException {
         int bytes = tape.handOver();
         if (base <= snapshot.base || base > MOST_BASE) {
             throw new IllegalArgumentException("base is not BASE + 1 .. 1000000");
@@ -186,7 +188,7 @@ public final class LogDisk {
         return was;
     }
 
-    public void keep(int file, int keep) {
+    public void keep(int file, int keep) throws IndexOutOfBoundsException, IllegalArgumentException {
         if (!isFile(file)) {
             throw new IndexOutOfBoundsException("no such file");
         }
@@ -205,7 +207,7 @@ public final class LogDisk {
         return last;
     }
 
-    public int state(int what) {
+    public int state(int what) throws IndexOutOfBoundsException {
         switch (what) {
             case 0: return vote.term;
             case 1: return vote.voted;
@@ -222,7 +224,7 @@ public final class LogDisk {
         }
     }
 
-    public int entry(int i, int what) {
+    public int entry(int i, int what) throws IndexOutOfBoundsException {
         if (i == snapshot.base && what == 0) {
             return snapshot.term;
         }
@@ -240,7 +242,7 @@ public final class LogDisk {
         }
     }
 
-    public int contentAt(int i, int k) {
+    public int contentAt(int i, int k) throws IndexOutOfBoundsException, NoSuchElementException {
         if (!isInLog(i)) {
             throw new IndexOutOfBoundsException("no such entry above BASE");
         }
@@ -251,14 +253,14 @@ public final class LogDisk {
         return files[entries.file[slot]].read(entries.start[slot] + ENTRY_HEAD + k);
     }
 
-    public int snapshotAt(int k) {
+    public int snapshotAt(int k) throws IndexOutOfBoundsException {
         if (k < 0 || k >= snapshotBytes()) {
             throw new IndexOutOfBoundsException("no such byte");
         }
         return files[snapshot.file].read(SNAPSHOT_HEAD + k);
     }
 
-    public int segment(int k, int what) {
+    public int segment(int k, int what) throws IndexOutOfBoundsException {
         if (k < 0 || k >= segments.count) {
             throw new IndexOutOfBoundsException("no such segment");
         }
@@ -269,7 +271,7 @@ public final class LogDisk {
         }
     }
 
-    public int file(int file, int what) {
+    public int file(int file, int what) throws IndexOutOfBoundsException {
         if (!isFile(file)) {
             throw new IndexOutOfBoundsException("no such file");
         }
@@ -284,7 +286,7 @@ public final class LogDisk {
         }
     }
 
-    public int byteAt(int file, int i) {
+    public int byteAt(int file, int i) throws IndexOutOfBoundsException {
         if (!isFile(file) || i < 0 || i >= files[file].now.size) {
             throw new IndexOutOfBoundsException("no such byte");
         }
@@ -570,12 +572,8 @@ public final class LogDisk {
             row = new int[longest];
         }
 
-        int pageCount() {
-            return pagesFor(size);
-        }
-
         void shorten(int to, Pages pages) {
-            int count = pageCount();
+            int count = pagesFor(size);
             for (int k = pagesFor(to); k < count && k < row.length; k++) {
                 pages.giveUp(row[k]);
             }
@@ -584,7 +582,7 @@ public final class LogDisk {
 
         void become(Content other, Pages pages) {
             shorten(0, pages);
-            int count = other.pageCount();
+            int count = pagesFor(other.size);
             for (int k = 0; k < count && k < row.length; k++) {
                 row[k] = other.row[k];
                 pages.share(row[k]);
@@ -608,7 +606,7 @@ public final class LogDisk {
         }
 
         boolean isShared(int k) {
-            return k >= 0 && k < now.pageCount() && k < synced.pageCount() && now.row[k] == synced.row[k];
+            return k >= 0 && k < pagesFor(now.size) && k < pagesFor(synced.size) && now.row[k] == synced.row[k];
         }
 
         boolean mustCopyLastPage() {
@@ -618,14 +616,14 @@ public final class LogDisk {
         /** Whether so many bytes can come behind NOW. */
         boolean canExtend(int more) {
             int after = pagesFor(now.size + more);
-            int needed = after - now.pageCount() + (mustCopyLastPage() ? 1 : 0);
+            int needed = after - pagesFor(now.size) + (mustCopyLastPage() ? 1 : 0);
             return after <= LONGEST_CONTENT && needed <= pages.unusedCount;
         }
 
         /** Whether NOW, cut to 0 before, can have so many bytes. */
         boolean canRewrite(int size) {
             int givenUp = 0;
-            int count = now.pageCount();
+            int count = pagesFor(now.size);
             for (int k = 0; k < count; k++) {
                 givenUp += isShared(k) ? 0 : 1;
             }

@@ -10,22 +10,36 @@ public final class FaceTest {
     private static final String[] FACE = {
         "public LogDisk(int,int)",
         "public static final int LogDisk.NONE",
-        "public int LogDisk.feed(long,int)",
-        "public int LogDisk.save(int,int)",
-        "public int LogDisk.append(int,int)",
-        "public int LogDisk.cutFrom(int)",
-        "public int LogDisk.compact(int,int)",
-        "public int LogDisk.take(int,int,int)",
+        "public int LogDisk.feed(long,int)"
+            + " throws java.lang.IllegalArgumentException,java.lang.IllegalStateException",
+        "public int LogDisk.save(int,int)"
+            + " throws java.lang.IllegalArgumentException,java.lang.UnsupportedOperationException",
+        "public int LogDisk.append(int,int)"
+            + " throws java.lang.IllegalArgumentException,java.lang.IllegalStateException,java.lang.UnsupportedOperationException",
+        "public int LogDisk.cutFrom(int)"
+            + " throws java.lang.IndexOutOfBoundsException",
+        "public int LogDisk.compact(int,int)"
+            + " throws java.lang.IndexOutOfBoundsException,java.lang.UnsupportedOperationException",
+        "public int LogDisk.take(int,int,int)"
+            + " throws java.lang.IllegalArgumentException,java.lang.UnsupportedOperationException",
         "public boolean LogDisk.sync()",
-        "public void LogDisk.keep(int,int)",
+        "public void LogDisk.keep(int,int)"
+            + " throws java.lang.IndexOutOfBoundsException,java.lang.IllegalArgumentException",
         "public int LogDisk.crash(long)",
-        "public int LogDisk.state(int)",
-        "public int LogDisk.entry(int,int)",
-        "public int LogDisk.contentAt(int,int)",
-        "public int LogDisk.snapshotAt(int)",
-        "public int LogDisk.segment(int,int)",
-        "public int LogDisk.file(int,int)",
+        "public int LogDisk.state(int)"
+            + " throws java.lang.IndexOutOfBoundsException",
+        "public int LogDisk.entry(int,int)"
+            + " throws java.lang.IndexOutOfBoundsException",
+        "public int LogDisk.contentAt(int,int)"
+            + " throws java.lang.IndexOutOfBoundsException,java.util.NoSuchElementException",
+        "public int LogDisk.snapshotAt(int)"
+            + " throws java.lang.IndexOutOfBoundsException",
+        "public int LogDisk.segment(int,int)"
+            + " throws java.lang.IndexOutOfBoundsException",
+        "public int LogDisk.file(int,int)"
+            + " throws java.lang.IndexOutOfBoundsException",
         "public int LogDisk.byteAt(int,int)"
+            + " throws java.lang.IndexOutOfBoundsException"
     };
 
     private static int wrong = 0;
