@@ -1291,6 +1291,15 @@ public final class BoundaryTest {
             due("the rest of " + size + " bytes is cut off", e.file(4, 0), HEAD + found * ENTRY);
             e.refusesEntry(found + 1, 0);
         }
+        Disk more = disk().entries(1, 1).fed(100).entries(1, 1).entries(1, 1);
+        int second = HEAD + ENTRY;
+        int third = second + ENTRY + 100;
+        for (int size = second; size <= third + ENTRY; size++) {
+            int found = size < third ? 1 : size < third + ENTRY ? 2 : 3;
+            Disk e = more.again();
+            due("LAST of " + size + " bytes, with content", e.crashWith(4, size + 1), found);
+            due("what stays of " + size + " bytes", e.file(4, 0), found == 1 ? second : found == 2 ? third : third + ENTRY);
+        }
     }
 
     private static void nextSegmentByNumber() {
